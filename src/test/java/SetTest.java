@@ -193,6 +193,9 @@ public final class SetTest {
         Check.due("drop of a KEPT one", x.drop(0, 0, 20), -1);
         Check.due("drop in no RECORD", x.drop(4, 0, 1), -1);
         Check.due("drop by no MAKE", x.drop(0, 2, 1), -1);
+        x.set(0, 0, 4, 5);
+        Check.due("drop behind a set", x.drop(0, 0, 2), 8);
+        Check.record("drop behind a set", x, 0, "0200 080a a8008200");
         Check.load(x, 1, "0500 0700");
         Check.due("drop of a rec", x.drop(1, 1, 2), 2);
         Check.record("drop of a rec", x, 1, "0700");

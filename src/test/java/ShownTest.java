@@ -15,6 +15,7 @@ public final class ShownTest {
 
     private final String[] texts = new String[MAKES];
     private final List<List<byte[]>> records = new ArrayList<>();
+    private final RecordBench walker;
     private RecordBench bench;
     private int loads = 0;
 
@@ -43,6 +44,7 @@ public final class ShownTest {
         for (int m = 0; m < MAKES; m++) {
             records.add(recordsOf(m));
         }
+        walker = Check.bench(texts);
     }
 
     private static String someText(int m, Random random) {
@@ -139,10 +141,9 @@ public final class ShownTest {
         for (byte[] record : records.get(a)) {
             lost = lost || isLost(record, a, b, c);
         }
-        RecordBench x = Check.bench(texts);
-        int why = x.walk(a, b, c);
+        int why = walker.walk(a, b, c);
         Check.holds("walk of " + texts[a] + " | " + texts[b] + " | " + texts[c] + " is " + why + ", by "
-                + x.by() + " in " + String.join(" / ", texts), lost == (why != 0));
+                + walker.by() + " in " + String.join(" / ", texts), lost == (why != 0));
         return lost;
     }
 

@@ -135,6 +135,14 @@ public final class WalkTest {
         Check.due("a GROUP within", z.walk(2, 3, 4), 5);
         Check.due("a GROUP within", z.step(2, 3), 5);
         Check.due("a GROUP within", z.step(3, 2), 0);
+        // What was found without 3 says nothing of the same MAKES with it, nor of others.
+        RecordBench v = Check.bench("1 a int = 5;", "1 a int;", "1 a int = 5;", "4 r rec 0;", "4 r rec 1;", "4 r rec 2;", "");
+        Check.due("without 3", v.walk(3, 4, 6), 0);
+        Check.due("with 3", v.step(3, 4), 5);
+        Check.due("without 3", v.walk(3, 5, 6), 0);
+        Check.due("by both", v.walk(3, 4, 5), 0);
+        Check.due("by both", v.walk(3, 5, 4), 5);
+        Check.due("without 3 again", v.walk(3, 4, 6), 0);
         // The inner c lacks what the inner b has: there, too, it goes without 3.
         RecordBench w = Check.bench("1 a int;", "1 a int = 5;", "1 r rec 0;", "1 r rec 1;", "", "2 s rec 2;", "2 s rec 3;",
                 "2 s rec 4;");
@@ -148,6 +156,7 @@ public final class WalkTest {
         step("1 a int; 2 b int = 2;", "1 a int in 1; 2 b int in 1;", 3, 2);
         step("1 a int; 2 b int = 1;", "1 a int in 1; 2 b text in 1;", 1, 2);
         step("30 a int; 9 b int;", "30 a text; 9 b flag;", 2, 9);
+        step("30 a int; 29 b int;", "30 a text; 29 b long;", 1, 30);
         walk("1 a int;", "1 a flag;", "1 a text;", 1, 1);
         RecordBench x = Check.bench("1 a int;", "1 a flag;", "1 p int; 2 r rec 0;", "1 p int in 1; 2 r rec 1 in 1;");
         Check.due("4 ahead of 5", x.step(2, 3), 4);
