@@ -1,3 +1,4 @@
+/** A bench for records whose shapes grow; what each call promises stands in the document, DOC.md. */
 public final class RecordBench {
 
     public static final int NONE = -1;
@@ -1136,7 +1137,7 @@ public final class RecordBench {
             seen = new int[2 * MAKES * MAKES * MAKES];
         }
 
-        boolean breaks(int a, int b, int c, boolean defaultsCount, int depth) {
+        private boolean breaks(int a, int b, int c, boolean defaultsCount, int depth) {
             Make from = makeOf(makes, a);
             Make over = makeOf(makes, b);
             Make to = makeOf(makes, c);
@@ -1155,7 +1156,7 @@ public final class RecordBench {
         }
 
         /** The least NUMBER by which the WALK BREAKS; 0 if it does not. */
-        int firstNumber(Make from, Make over, Make to, boolean defaultsCount, int depth) {
+        private int firstNumber(Make from, Make over, Make to, boolean defaultsCount, int depth) {
             for (int number = 1; number <= TOP_NUMBER; number++) {
                 if (whyBy(number, from, over, to, defaultsCount, depth) != 0) {
                     return number;
@@ -1164,7 +1165,7 @@ public final class RecordBench {
             return 0;
         }
 
-        int whyBy(int number, Make from, Make over, Make to, boolean defaultsCount, int depth) {
+        private int whyBy(int number, Make from, Make over, Make to, boolean defaultsCount, int depth) {
             Field first = from.knownAt(number);
             if (first == null) {
                 return 0;

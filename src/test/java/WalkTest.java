@@ -96,12 +96,12 @@ public final class WalkTest {
     }
 
     /** MAKES 0 to 2 are small, 3 to 5 have them as recs. */
-    private static RecordBench nested(String a, String b, String c, String d, String e, String f) {
-        return Check.bench(a, b, c, d, e, f);
+    private static RecordBench nested() {
+        return Check.bench("1 a int;", "1 a flag;", "1 a int = 5;", "4 r rec 0;", "4 r rec 1;", "4 r rec 2;");
     }
 
     private static void recs() {
-        RecordBench x = nested("1 a int;", "1 a flag;", "1 a int = 5;", "4 r rec 0;", "4 r rec 1;", "4 r rec 2;");
+        RecordBench x = nested();
         Check.due("both have one", x.walk(3, 3, 3), 0);
         Check.due("by", x.by(), 0);
         Check.due("narrower within", x.step(3, 4), 5);
@@ -115,7 +115,7 @@ public final class WalkTest {
     }
 
     private static void recsOfOne() {
-        RecordBench x = nested("1 a int;", "1 a flag;", "1 a int = 5;", "4 r rec 0;", "4 r rec 1;", "4 r rec 2;");
+        RecordBench x = nested();
         Check.make(x, 6, "4 gone;");
         Check.make(x, 7, "3 s rec 3; 5 t int;");
         Check.due("just b has, DEFAULT", x.walk(3, 5, 6), 0);
