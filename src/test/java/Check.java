@@ -4,16 +4,26 @@ import java.nio.charset.StandardCharsets;
 final class Check {
     private static int wrong = 0;
     private static int asked = 0;
+    private static String sentence = "";
 
     private Check() {
+    }
+
+    /** The words of the document by which the answers from here on are due. */
+    static void sentence(String words) {
+        sentence = words;
     }
 
     static void due(String call, long got, long want) {
         asked++;
         if (got != want) {
-            wrong++;
-            System.out.println(call + " answered " + got + ", due is " + want);
+            report(call + " answered " + got + ", due is " + want);
         }
+    }
+
+    private static void report(String what) {
+        wrong++;
+        System.out.println(what + (sentence.isEmpty() ? "" : ", by: " + sentence));
     }
 
     static void holds(String what, boolean truth) {
@@ -89,8 +99,7 @@ final class Check {
             got.append(String.format("%02x", x.at(r, i)));
         }
         if (!got.toString().equals(want)) {
-            wrong++;
-            System.out.println(call + " left " + got + ", due is " + want);
+            report(call + " left " + got + ", due is " + want);
         }
     }
 }

@@ -6,7 +6,7 @@ import java.util.Arrays;
 import java.util.Set;
 import java.util.TreeSet;
 
-/** The public face, and promise 1. */
+/** The public face, the 512 calls of an object, and promise 1. */
 public final class FaceTest {
     private static final String[] METHODS = {
         "int feed(int,int,int,int,int)", "boolean end(int)", "int make(int)", "int fault(int)",
@@ -20,6 +20,8 @@ public final class FaceTest {
     public static void main(String[] args) {
         members();
         newObject();
+        calls512();
+        objectsApart();
         Check.finish();
     }
 
@@ -51,6 +53,7 @@ public final class FaceTest {
     }
 
     private static void newObject() {
+        Check.sentence("No MAKES; RECORDS 0 .. 3 are empty.");
         RecordBench x = new RecordBench();
         Check.due("fault(0)", x.fault(0), 0);
         Check.due("fault(1)", x.fault(1), -1);
@@ -66,5 +69,30 @@ public final class FaceTest {
             Check.due("at", x.at(r, 0), -1);
             Check.due("clear", x.clear(r), 0);
         }
+    }
+
+    private static void calls512() {
+        Check.sentence("An object is used for at most 512 calls after it has been made");
+        RecordBench x = new RecordBench();
+        for (int call = 1; call <= 509; call++) {
+            Check.due("feed", x.feed(0x31206120, 0x696e743b, 0, 0, 0), call <= 20 ? 20 * call : -1);
+        }
+        Check.holds("the 510th call", x.end(8));
+        Check.due("the 511th call", x.make(7), 1);
+        Check.due("the 512th call", x.readers(7), 1);
+    }
+
+    private static void objectsApart() {
+        Check.sentence("A new object");
+        RecordBench x = Check.bench("1 a int;", "1 a flag;");
+        x.set(0, 0, 1, 5);
+        x.read(0, 1);
+        x.step(0, 1);
+        x.feed(1, 2, 3, 4, 5);
+        newObject();
+        Check.due("the first one stays", x.get(0, 0, 1, 1), 5);
+        Check.due("the first one stays", x.fault(0), 5);
+        Check.due("the first one stays", x.by(), 1);
+        Check.holds("the first one stays", x.end(20));
     }
 }

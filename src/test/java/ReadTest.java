@@ -1,258 +1,323 @@
-/** Promises 5 (fault, of read), 14 (read), 15 (get), 16 (kept), 17 (write), 19 (open). */
+/** Promises 5 (fault, of read), 14 (read), 15 (get), 16 (kept), 17 (write), 19 (open), a test for each sentence. */
 public final class ReadTest {
     private static final long NOTHING = -9000000000000000000L;
     private static final String ZERO = "1 a flag;2 b small in 1;3 c int in 1;5 t text=\"pq\";6 gone;9 l long = -4;";
     private static final String ONE = "2 r rec 0;4 x int = 7;5 s rec 0 in 3;6 y int in 3;";
-    private static final String TWO = "1 o rec 1;2 z flag;";
+    private static final int[] NO_RECORD = {-1, 4, Integer.MIN_VALUE, Integer.MAX_VALUE};
+    private static final int[] NO_MAKE = {-1, 2, 7, 8, Integer.MIN_VALUE, Integer.MAX_VALUE};
+    private static final int[] NO_NUMBER = {-1, 0, 8, 30, 31, Integer.MIN_VALUE, Integer.MAX_VALUE};
 
     public static void main(String[] args) {
-        faults();
-        leastOfOnePiece();
-        insideRecs();
-        sound();
-        latest();
-        gets();
+        knownPieces();
+        readWithAFault();
+        readOfNone();
+        latestRead();
+        otherCallsLeaveFault();
+        isSet();
+        itsNumber();
+        howManyBytes();
+        itsDefault();
+        getWithAFault();
+        getOfNone();
+        keeps();
+        keepsNothing();
         writes();
+        writesInPlace();
+        writesNone();
+        writesWithAFault();
         opens();
-        deep();
+        opensInPlace();
+        opensOneNotSet();
+        opensNone();
+        opensWithAFault();
         Check.finish();
     }
 
-    private static void faulty(int m, String hex, int fault, int place) {
-        RecordBench x = Check.bench(ZERO, ONE, TWO);
-        Check.load(x, 3, hex);
-        Check.due("read of " + hex, x.read(3, m), -1);
-        Check.due("fault(0) of " + hex, x.fault(0), fault);
-        Check.due("fault(1) of " + hex, x.fault(1), place);
-        Check.due("kept of " + hex, x.kept(3, m), -1);
-        Check.due("get of " + hex, x.get(3, m, 2, 0), NOTHING);
-        Check.due("write of " + hex, x.write(3, m, 0), -2);
-        Check.due("write with a FAULT writes nothing", x.at(0, 0), -1);
-        Check.record("it stays", x, 3, hex);
+    private static RecordBench two() {
+        return Check.bench(ZERO, ONE);
     }
 
-    private static void faults() {
-        faulty(0, "12", 1, 0);
-        faulty(0, "80", 1, 0);
-        faulty(0, "1280", 1, 0);
-        faulty(0, "0b", 1, 0);
-        faulty(0, "0b80", 1, 0);
-        faulty(0, "0200 28", 1, 2);
-        faulty(0, "12 ffffffffffffffffff02", 1, 0);
-        faulty(0, "12 8080808080808080808000", 1, 0);
-        faulty(0, "92808080808080808002 00", 1, 0);
-        faulty(0, "0000", 2, 0);
-        faulty(0, "0100", 2, 0);
-        faulty(0, "3e00", 2, 0);
-        faulty(0, "3f00", 2, 0);
-        faulty(0, "0200 ffffffffffffffffff01 00", 2, 2);
-        faulty(0, "0b0461", 3, 0);
-        faulty(0, "290161 2b03 6161", 3, 3);
-        faulty(0, "29 ffffffffffffffffff01 61", 3, 0);
-        faulty(0, "29 80808080 10 61", 3, 0);
-        faulty(0, "03 01 61", 4, 0);
-        faulty(0, "0a 00", 4, 0);
-        faulty(1, "04 00", 4, 0);
-        faulty(1, "09 00", 4, 0);
-        faulty(0, "02 04", 5, 0);
-        faulty(0, "02 01", 5, 0);
-        faulty(0, "04 8002", 5, 0);
-        faulty(0, "04 8102", 5, 0);
-        faulty(0, "06 8080808010", 5, 0);
-        faulty(0, "06 8180808010", 5, 0);
-        faulty(0, "0b 01 1f", 5, 0);
-        faulty(0, "0b 01 7f", 5, 0);
-        faulty(0, "0b 0d 61616161616161616161616161", 5, 0);
-        faulty(0, "1201 0202", 6, 2);
-        faulty(0, "1201 1201", 6, 2);
-        faulty(0, "2800 2800", 6, 2);
-        faulty(0, "2800 2600", 6, 2);
-        faulty(0, "0401 0601", 7, 2);
-        faulty(1, "0b00 0c00", 7, 2);
-    }
-
-    private static void leastOfOnePiece() {
-        faulty(0, "3e", 1, 0);
-        faulty(0, "3f80", 1, 0);
-        faulty(0, "3f 05 61", 2, 0);
-        faulty(0, "03 05 61", 3, 0);
-        faulty(0, "0200 0301 61", 4, 2);
-        faulty(0, "0200 0204", 5, 2);
-        faulty(0, "0401 0401", 6, 2);
-        faulty(0, "1200 0b01 0a", 5, 2);
-        faulty(0, "1200 0f05 61", 3, 2);
-        faulty(0, "0204 12", 5, 0);
-    }
-
-    private static void insideRecs() {
-        faulty(1, "0502 1280", 1, 2);
-        faulty(1, "0501 12 0802", 1, 2);
-        faulty(1, "0502 3e00", 2, 2);
-        faulty(1, "0503 0b0261 61", 3, 2);
-        faulty(1, "0502 0204", 5, 2);
-        faulty(1, "0504 1201 0202", 6, 4);
-        faulty(1, "0504 0401 0601", 7, 4);
-        faulty(1, "0502 0200 0b02 0204", 5, 6);
-        faulty(2, "0308 0506 0200 0401 0601", 7, 8);
-        faulty(2, "0304 0502 0204 0204", 5, 4);
-        // What the rec's own PIECE has stands ahead of what is inside it.
-        faulty(1, "0800 0502 0204", 6, 2);
-        faulty(1, "0500 0502 0204", 6, 2);
-        RecordBench x = Check.bench(ZERO, "1 p int in 1;2 q rec 0 in 1;");
-        Check.load(x, 0, "0200 0502 0204");
-        Check.due("read", x.read(0, 1), -1);
-        Check.due("fault(0)", x.fault(0), 7);
-        Check.due("fault(1)", x.fault(1), 2);
-    }
-
-    private static void sound() {
-        RecordBench x = Check.bench(ZERO, ONE, TWO);
-        reads(x, 0, "", 0, 0);
-        reads(x, 0, "0200 0401 0b0161 0c05 1200", 4, 1);
-        reads(x, 0, "0d0161", 0, 1);
-        reads(x, 0, "0c05", 0, 1);
-        reads(x, 0, "3dffff00", -1, -1);
-        reads(x, 0, "3d01ff", 0, 1);
-        reads(x, 0, "3cffffffffffffffffff01", 0, 1);
-        reads(x, 0, "0b0c 20227e616161616161616161", 1, 0);
-        reads(x, 0, "04fe01", 1, 0);
-        reads(x, 0, "04ff01", 1, 0);
-        reads(x, 0, "06ffffffff0f", 1, 0);
-        reads(x, 0, "82808080808080808000 82808080808080808000", 1, 0);
-        reads(x, 1, "0504 0200 2800 0700 0800", 2, 1);
-        reads(x, 1, "0702 ffff", 0, 1);
-        reads(x, 1, "0500 0b00", 2, 0);
-        Check.due("read of no RECORD", x.read(4, 0), -2);
-        Check.due("read of no RECORD", x.read(-1, 0), -2);
-        Check.due("read by no MAKE", x.read(0, 3), -2);
-        Check.due("read by no MAKE", x.read(0, -1), -2);
-        Check.due("kept of no RECORD", x.kept(4, 0), -1);
-        Check.due("kept by no MAKE", x.kept(0, 8), -1);
-    }
-
-    private static void reads(RecordBench x, int m, String hex, int known, int kept) {
+    private static RecordBench with(String hex) {
+        RecordBench x = two();
         Check.load(x, 0, hex);
-        Check.due("read of " + hex, x.read(0, m), known);
-        Check.due("kept of " + hex, x.kept(0, m), kept);
-        if (known >= 0) {
-            Check.due("fault(0) of " + hex, x.fault(0), 0);
-            Check.due("fault(1) of " + hex, x.fault(1), -1);
-        }
+        return x;
     }
 
-    private static void latest() {
-        RecordBench x = Check.bench(ZERO, ONE, TWO);
-        Check.load(x, 0, "0200 0c");
+    private static void knownPieces() {
+        Check.sentence("RECORD r is read by a MAKE: how many KNOWN PIECES");
+        Check.due("of none", two().read(0, 0), 0);
+        Check.due("of four", with("0200 0401 0b0161 0c05 1200").read(0, 0), 4);
+        Check.due("of KEPT ones", with("0c05 2800").read(0, 0), 0);
+        Check.due("a rec is one", with("0504 0200 1200 0800").read(0, 1), 2);
+        RecordBench x = with("828000 00");
+        Check.due("of a long KEY", x.read(0, 0), 1);
+        Check.record("it is not written", x, 0, "82800000");
+    }
+
+    private static void readWithAFault() {
+        Check.sentence("-1 with a FAULT");
+        Check.due("read", with("0204").read(0, 0), -1);
+        Check.due("read inside a rec", with("0502 0204").read(0, 1), -1);
+        Check.due("by a MAKE that keeps it", with("0204").read(0, 1), 0);
+    }
+
+    private static void readOfNone() {
+        Check.sentence("-2 there is none such.");
+        RecordBench x = with("0204");
+        for (int r : NO_RECORD) {
+            Check.due("read(" + r + ", 0)", x.read(r, 0), -2);
+        }
+        for (int m : NO_MAKE) {
+            Check.due("read(0, " + m + ")", x.read(0, m), -2);
+        }
+        Check.due("read of neither", x.read(4, 8), -2);
+    }
+
+    private static void latestRead() {
+        Check.sentence("Of the latest make() that was not -2, or read(): its FAULT (0; 0 without, or ahead of any)");
+        RecordBench x = with("0200 0c");
         Check.load(x, 1, "0200");
         x.read(0, 0);
-        Check.due("other calls leave fault", x.set(1, 0, 1, 9), -3);
-        x.get(1, 0, 1, 1);
-        x.kept(1, 0);
-        x.write(1, 0, 2);
-        x.make(0);
         Check.due("fault(0)", x.fault(0), 1);
         Check.due("fault(1)", x.fault(1), 2);
-        Check.make(x, 3, "1");
-        Check.due("fault(0) of make", x.fault(0), 1);
-        Check.due("fault(1) of make", x.fault(1), 1);
+        Check.make(x, 3, "0");
+        Check.due("fault(0) of make", x.fault(0), 2);
+        Check.due("fault(1) of make", x.fault(1), 0);
         x.read(0, 0);
         Check.due("fault(1) of read", x.fault(1), 2);
-        Check.due("write with a FAULT", x.write(0, 0, 3), -2);
         x.read(1, 0);
         Check.due("fault(0) without", x.fault(0), 0);
-        x.write(0, 0, 3);
-        Check.due("fault(0) is not of write", x.fault(0), 0);
+        Check.due("fault(1) without", x.fault(1), -1);
+        x.read(0, 0);
+        Check.make(x, 3, "1 a int;");
+        Check.due("fault(0) of a make without", x.fault(0), 0);
         x.read(0, 0);
         x.read(0, 7);
         Check.due("a read of none has no FAULT", x.fault(0), 0);
         Check.due("a read of none has no place", x.fault(1), -1);
     }
 
-    private static void gets() {
-        RecordBench x = Check.bench(ZERO, ONE, TWO);
-        Check.load(x, 0, "0202 0401 0b0161 0c05");
-        long[][] want = {{1, 1, 1}, {2, 1, -1}, {3, 0, 0}, {5, 1, 1}, {9, 0, -4}, {6, 0, 0}};
-        for (long[] row : want) {
-            Check.due("get 0 of " + row[0], x.get(0, 0, (int) row[0], 0), row[1]);
-            Check.due("get 1 of " + row[0], x.get(0, 0, (int) row[0], 1), row[2]);
-            Check.due("get 2", x.get(0, 0, (int) row[0], 2), NOTHING);
-            Check.due("get -1", x.get(0, 0, (int) row[0], -1), NOTHING);
+    private static void otherCallsLeaveFault() {
+        Check.sentence("Of the latest make() that was not -2, or read()");
+        RecordBench x = with("0200 0c");
+        Check.load(x, 1, "0200");
+        x.read(0, 0);
+        allOthers(x, 1);
+        Check.due("fault(0) stays", x.fault(0), 1);
+        Check.due("fault(1) stays", x.fault(1), 2);
+        x.read(3, 0);
+        allOthers(x, 0);
+        Check.due("fault(0) stays", x.fault(0), 0);
+        Check.due("fault(1) stays", x.fault(1), -1);
+    }
+
+    private static void allOthers(RecordBench x, int r) {
+        x.set(r, 0, 1, 9);
+        x.set(r, 0, 1, 1);
+        x.say(r, 0, 5);
+        x.nest(2, 1, 2, r);
+        x.drop(r, 0, 1);
+        x.get(r, 0, 1, 1);
+        x.kept(r, 0);
+        x.write(r, 0, 2);
+        x.open(r, 1, 2, 2);
+        x.step(0, 1);
+        x.make(0);
+    }
+
+    private static void isSet() {
+        Check.sentence("0 whether it is set");
+        RecordBench x = with("0200 0401 0b00 0c05");
+        int[][] want = {{1, 1}, {2, 1}, {3, 0}, {5, 1}, {9, 0}, {6, 0}};
+        for (int[] row : want) {
+            Check.due("get 0 of " + row[0], x.get(0, 0, row[0], 0), row[1]);
         }
-        for (int number : new int[] {-1, 0, 4, 30, 31}) {
-            Check.due("get of none", x.get(0, 0, number, 0), NOTHING);
+        Check.due("a rec that is set", with("0500").get(0, 1, 2, 0), 1);
+        Check.due("a rec that is not", with("0800").get(0, 1, 2, 0), 0);
+    }
+
+    private static void itsNumber() {
+        Check.sentence("1 its number");
+        RecordBench x = with("0202 0401 12ffffffffffffffffff01");
+        Check.due("a flag", x.get(0, 0, 1, 1), 1);
+        Check.due("a small", x.get(0, 0, 2, 1), -1);
+        Check.due("the least long", x.get(0, 0, 9, 1), Long.MIN_VALUE);
+        Check.due("the greatest long", with("12feffffffffffffffff01").get(0, 0, 9, 1), Long.MAX_VALUE);
+        Check.due("a long VARINT", with("12 82808080808080808000").get(0, 0, 9, 1), 1);
+        Check.due("the least int", with("06ffffffff0f").get(0, 0, 3, 1), Integer.MIN_VALUE);
+    }
+
+    private static void howManyBytes() {
+        Check.sentence("of a text or rec how many bytes it has");
+        Check.due("a text", with("0b0161").get(0, 0, 5, 1), 1);
+        Check.due("an empty text", with("0b00").get(0, 0, 5, 1), 0);
+        Check.due("a text of twelve", with("0b0c" + "61".repeat(12)).get(0, 0, 5, 1), 12);
+        Check.due("a rec's bytes as they stand", with("0503 028000").get(0, 1, 2, 1), 3);
+        Check.due("an empty rec", with("0500").get(0, 1, 2, 1), 0);
+        Check.due("a rec of 118", with("0576 2974" + "00".repeat(116)).get(0, 1, 2, 1), 118);
+    }
+
+    private static void itsDefault() {
+        Check.sentence("its DEFAULT, if it is not set");
+        RecordBench x = two();
+        Check.due("a flag's", x.get(0, 0, 1, 1), 0);
+        Check.due("a long's", x.get(0, 0, 9, 1), -4);
+        Check.due("an int's", x.get(0, 1, 4, 1), 7);
+        Check.due("a text's", x.get(0, 0, 5, 1), 2);
+        Check.due("a rec's", x.get(0, 1, 2, 1), 0);
+        Check.due("a gone one's", x.get(0, 0, 6, 1), 0);
+        Check.due("a gone one's, with a KEPT PIECE", with("0c05").get(0, 0, 6, 1), 0);
+        Check.due("set to 0 it is 0", with("0800").get(0, 1, 4, 1), 0);
+    }
+
+    private static void getWithAFault() {
+        Check.sentence("-9000000000000000000 when it has a FAULT");
+        RecordBench x = with("0202 0402 0204");
+        for (int number : new int[] {1, 2, 3, 5, 6, 9}) {
+            Check.due("get 0 of " + number, x.get(0, 0, number, 0), NOTHING);
+            Check.due("get 1 of " + number, x.get(0, 0, number, 1), NOTHING);
         }
-        Check.due("get of no RECORD", x.get(4, 0, 1, 0), NOTHING);
-        Check.due("get by no MAKE", x.get(0, 3, 1, 0), NOTHING);
-        Check.due("a text's DEFAULT", x.get(1, 0, 5, 1), 2);
-        Check.due("a rec that is not set", x.get(1, 1, 2, 1), 0);
-        Check.load(x, 1, "0503 028000");
-        Check.due("a rec's bytes as they stand", x.get(1, 1, 2, 1), 3);
-        Check.load(x, 1, "0500");
-        Check.due("an empty rec is set", x.get(1, 1, 2, 0), 1);
-        Check.due("an empty rec", x.get(1, 1, 2, 1), 0);
+    }
+
+    private static void getOfNone() {
+        Check.sentence("when it has a FAULT, or there is none such.");
+        RecordBench x = with("0202 1000");
+        for (int r : NO_RECORD) {
+            Check.due("get of RECORD " + r, x.get(r, 0, 1, 0), NOTHING);
+        }
+        for (int m : NO_MAKE) {
+            Check.due("get by MAKE " + m, x.get(0, m, 1, 0), NOTHING);
+        }
+        for (int number : NO_NUMBER) {
+            Check.due("get of NUMBER " + number, x.get(0, 0, number, 0), NOTHING);
+            Check.due("get of NUMBER " + number, x.get(0, 0, number, 1), NOTHING);
+        }
+        for (int what : new int[] {-1, 2, Integer.MIN_VALUE, Integer.MAX_VALUE}) {
+            Check.due("get for " + what, x.get(0, 0, 1, what), NOTHING);
+        }
+    }
+
+    private static void keeps() {
+        Check.sentence("How many PIECES a MAKE would KEEP of a RECORD");
+        Check.due("of none", two().kept(0, 0), 0);
+        Check.due("of KNOWN ones", with("0200 0401").kept(0, 0), 0);
+        Check.due("of gone and other ones", with("0200 0800 0c05 2800 3d00").kept(0, 0), 4);
+        Check.due("not those in recs", with("0502 2800 0700").kept(0, 1), 1);
+    }
+
+    private static void keepsNothing() {
+        Check.sentence("NONE with a FAULT, or if there is none such.");
+        Check.due("with a FAULT", with("2800 0204").kept(0, 0), -1);
+        RecordBench x = two();
+        for (int r : NO_RECORD) {
+            Check.due("kept(" + r + ", 0)", x.kept(r, 0), -1);
+        }
+        for (int m : NO_MAKE) {
+            Check.due("kept(0, " + m + ")", x.kept(0, m), -1);
+        }
     }
 
     private static void writes() {
-        RecordBench x = Check.bench(ZERO, ONE, TWO);
-        Check.load(x, 0, "828000 8200 06 828000 8b00 8100 61 8c00 8500 928000 ffffffffffffffffff01 a900 8100 62");
-        Check.due("write", x.write(0, 0, 1), 27);
-        Check.record("write", x, 1, "0202 0602 0b0161 8c008500 12ffffffffffffffffff01 a900810062");
-        Check.due("at", x.at(0, 0), 0x82);
-        Check.due("write in place", x.write(0, 0, 0), 27);
-        Check.record("write in place", x, 0, "0202 0602 0b0161 8c008500 12ffffffffffffffffff01 a900810062");
-        Check.load(x, 0, "838000 9600 8500 8900 828000 8000 a8008000 888000 8e00 a9008000 8400 8200");
-        Check.due("write with recs", x.write(0, 2, 0), 18);
-        Check.record("write with recs", x, 0, "030e 0506 0200 a8008000 080e a9008000 0402");
-        Check.due("write none", x.write(3, 2, 0), 0);
-        Check.record("write none", x, 0, "");
-        Check.due("write of no RECORD", x.write(4, 0, 0), -1);
-        Check.due("write to no RECORD", x.write(0, 0, 4), -1);
-        Check.due("write to no RECORD", x.write(0, 0, -1), -1);
-        Check.due("write by no MAKE", x.write(0, 3, 0), -1);
-        Check.load(x, 0, "0502 0204");
-        Check.due("write with a FAULT", x.write(0, 1, 3), -2);
-        Check.due("by a MAKE that keeps it", x.write(0, 0, 3), -2);
-        Check.load(x, 0, "0702 0204");
-        Check.due("by a MAKE that keeps it", x.write(0, 1, 3), 4);
-        Check.record("by a MAKE that keeps it", x, 3, "07020204");
+        Check.sentence("RECORD r, read by a MAKE, is written to RECORD o");
+        RecordBench x = with("82008200 8c008500");
+        Check.load(x, 3, "0102030405060708");
+        Check.due("write", x.write(0, 0, 3), 6);
+        Check.record("write", x, 3, "0202 8c008500");
+        Check.record("write leaves r", x, 0, "82008200 8c008500");
+        Check.due("write of none", x.write(1, 0, 3), 0);
+        Check.record("write of none", x, 3, "");
+        Check.load(x, 0, "3d75" + "00".repeat(117));
+        Check.due("write of 119", x.write(0, 0, 1), 119);
+        Check.load(x, 0, "3d76" + "00".repeat(118));
+        Check.due("write of 120", x.write(0, 0, 1), 120);
+    }
+
+    private static void writesInPlace() {
+        Check.sentence("is written to RECORD o (it may be r): how many bytes");
+        RecordBench x = with("82008200 8c008500");
+        Check.due("write in place", x.write(0, 0, 0), 6);
+        Check.record("write in place", x, 0, "0202 8c008500");
+    }
+
+    private static void writesNone() {
+        Check.sentence("how many bytes; -1 there is none such");
+        RecordBench x = with("8200 00");
+        for (int r : NO_RECORD) {
+            Check.due("write of RECORD " + r, x.write(r, 0, 0), -1);
+            Check.due("write to RECORD " + r, x.write(0, 0, r), -1);
+        }
+        for (int m : NO_MAKE) {
+            Check.due("write by MAKE " + m, x.write(0, m, 0), -1);
+        }
+        Check.record("nothing is written", x, 0, "820000");
+    }
+
+    private static void writesWithAFault() {
+        Check.sentence("-2 r has a FAULT.");
+        RecordBench x = with("0502 0204");
+        Check.load(x, 3, "0102");
+        Check.due("write", x.write(0, 1, 3), -2);
+        Check.record("nothing is written", x, 3, "0102");
+        Check.due("write in place", x.write(0, 1, 0), -2);
+        Check.record("it stays", x, 0, "05020204");
+        Check.due("o may have one", x.write(2, 1, 0), 0);
+        Check.record("it is written", x, 0, "");
     }
 
     private static void opens() {
-        RecordBench x = Check.bench(ZERO, ONE, TWO);
-        Check.load(x, 0, "0503 028000 0802");
-        Check.load(x, 1, "0102");
+        Check.sentence("A rec FIELD's bytes, as they stand, come to RECORD o");
+        RecordBench x = with("0503 028000 0802 0b00");
+        Check.load(x, 1, "0102030405");
         Check.due("open", x.open(0, 1, 2, 1), 3);
-        Check.record("open, as they stand", x, 1, "028000");
-        Check.due("open in place", x.open(0, 1, 2, 0), 3);
-        Check.record("open in place", x, 0, "028000");
-        Check.load(x, 0, "0802");
-        Check.due("open of one not set", x.open(0, 1, 2, 1), 0);
-        Check.record("open of one not set", x, 1, "");
-        Check.due("open of no rec", x.open(0, 1, 4, 1), -1);
-        Check.due("open of a text", x.open(0, 0, 5, 1), -1);
-        Check.due("open of a gone one", x.open(0, 0, 6, 1), -1);
-        Check.due("open of no FIELD", x.open(0, 1, 3, 1), -1);
-        Check.due("open of no RECORD", x.open(4, 1, 2, 1), -1);
-        Check.due("open to no RECORD", x.open(0, 1, 2, 4), -1);
-        Check.due("open by no MAKE", x.open(0, 3, 2, 1), -1);
-        Check.load(x, 0, "0503 028000 08");
-        Check.load(x, 1, "0102");
-        Check.due("open with a FAULT", x.open(0, 1, 2, 1), -2);
-        Check.record("open with a FAULT", x, 1, "0102");
+        Check.record("as they stand", x, 1, "028000");
+        Check.record("r stays", x, 0, "0503 028000 0802 0b00");
+        Check.due("open of an empty one", with("0b00").open(0, 1, 5, 1), 0);
+        Check.due("open of 118", with("0576 2974" + "00".repeat(116)).open(0, 1, 2, 3), 118);
     }
 
-    /** Recs within recs through all eight MAKES. */
-    private static void deep() {
-        RecordBench x = Check.bench("1 a flag;", "1 a rec 0;", "1 a rec 1;", "1 a rec 2;", "1 a rec 3;", "1 a rec 4;",
-                "1 a rec 5;", "1 a rec 6;");
-        Check.load(x, 0, "030f 030d 030b 0309 0307 0305 0303 028000 ");
-        Check.due("read", x.read(0, 7), 1);
-        Check.due("write", x.write(0, 7, 1), 16);
-        Check.record("write", x, 1, "030e 030c 030a 0308 0306 0304 0302 0200");
-        Check.load(x, 0, "030e 030c 030a 0308 0306 0304 0302 0204");
-        Check.due("read", x.read(0, 7), -1);
-        Check.due("fault(0)", x.fault(0), 5);
-        Check.due("fault(1)", x.fault(1), 14);
-        Check.due("step", x.step(7, 7), 0);
+    private static void opensInPlace() {
+        Check.sentence("come to RECORD o (it may be r)");
+        RecordBench x = with("0200 0503 028000 0802");
+        Check.due("open in place", x.open(0, 1, 2, 0), 3);
+        Check.record("open in place", x, 0, "028000");
+    }
+
+    private static void opensOneNotSet() {
+        Check.sentence("how many (0 if it is not set)");
+        RecordBench x = with("0802");
+        Check.load(x, 1, "0102");
+        Check.due("open of one not set", x.open(0, 1, 2, 1), 0);
+        Check.record("no bytes come to o", x, 1, "");
+        Check.due("in place", x.open(0, 1, 2, 0), 0);
+        Check.record("in place", x, 0, "");
+    }
+
+    private static void opensNone() {
+        Check.sentence("-1 no such RECORD, MAKE, rec FIELD");
+        RecordBench x = with("0500");
+        for (int r : NO_RECORD) {
+            Check.due("open of RECORD " + r, x.open(r, 1, 2, 1), -1);
+            Check.due("open to RECORD " + r, x.open(0, 1, 2, r), -1);
+        }
+        for (int m : NO_MAKE) {
+            Check.due("open by MAKE " + m, x.open(0, m, 2, 1), -1);
+        }
+        for (int number : NO_NUMBER) {
+            Check.due("open of NUMBER " + number, x.open(0, 1, number, 1), -1);
+        }
+        Check.due("open of an int", x.open(0, 1, 4, 1), -1);
+        Check.due("open of a text", x.open(0, 0, 5, 1), -1);
+        Check.due("open of a gone one", x.open(0, 0, 6, 1), -1);
+    }
+
+    private static void opensWithAFault() {
+        Check.sentence("rec FIELD; -2 a FAULT.");
+        RecordBench x = with("0502 0200 08");
+        Check.load(x, 1, "0102");
+        Check.due("open", x.open(0, 1, 2, 1), -2);
+        Check.record("nothing comes to o", x, 1, "0102");
+        Check.due("-1 ahead of it", x.open(0, 1, 4, 1), -1);
+        Check.load(x, 0, "0502 0204");
+        Check.due("open of one with a FAULT inside", x.open(0, 1, 2, 1), -2);
     }
 }

@@ -20,6 +20,7 @@ public final class ShownTest {
     private int loads = 0;
 
     public static void main(String[] args) {
+        Check.sentence("(So that b or c had a FAULT, or c would tell another thing than a.)");
         Random random = new Random(11);
         int broken = 0;
         int whole = 0;
