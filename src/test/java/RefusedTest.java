@@ -27,7 +27,8 @@ public final class RefusedTest {
      */
     private static RecordBench bench() {
         RecordBench x = Check.bench("1 a int in 1; 2 t text in 1; 3 gone; 4 f flag;",
-                "1 a int; 2 r rec 0; 3 t text; 4 f flag in 2; 5 g flag in 2;", "1 a int; 2 t text; 4 f flag = 1; 30 s text;");
+                "1 a int; 2 r rec 0; 3 t text; 4 f flag in 2; 5 g flag in 2;",
+                "1 a int; 2 t text; 4 f flag = 1; 30 s text;");
         Check.load(x, 0, "0200 0502 0200 0802");
         Check.load(x, 1, "0200 0806 3e00");
         Check.load(x, 3, "2976" + "00".repeat(118));

@@ -189,7 +189,8 @@ public final class WalkTest {
         Check.due("just b has, DEFAULT", x.walk(3, 5, 6), 0);
         Check.due("by", x.by(), 0);
         // What was found without 3 says nothing of the same MAKES with it, nor of others.
-        RecordBench v = Check.bench("1 a int = 5;", "1 a int;", "1 a int = 5;", "4 r rec 0;", "4 r rec 1;", "4 r rec 2;", "");
+        RecordBench v = Check.bench("1 a int = 5;", "1 a int;", "1 a int = 5;", "4 r rec 0;", "4 r rec 1;", "4 r rec 2;",
+                "");
         Check.due("without 3", v.walk(3, 4, 6), 0);
         Check.due("with 3", v.step(3, 4), 5);
         Check.due("without 3", v.walk(3, 5, 6), 0);
