@@ -160,7 +160,23 @@ public final class RecordBench {
     }
 
     public int say(int r, int m, int number) {
-        int answer = sayTape(r, m, number);
+        Row row = recordOf(r);
+        Make by = makeOf(makes, m);
+        Field f = fieldOf(m, number);
+        int answer;
+        if (row == null || by == null || f == null || f.kind != TEXT) {
+            answer = -1;
+        } else if (!reader.isSound(row, by)) {
+            answer = -2;
+        } else if (!tape.isText(0, tape.size())) {
+            answer = -3;
+        } else {
+            fresh.cut(0);
+            fresh.pushKey(f);
+            fresh.pushVarint(tape.size());
+            fresh.append(tape, 0, tape.size());
+            answer = settle(row, by, number, f.group);
+        }
         tape.cut(0);
         return answer;
     }
@@ -320,26 +336,6 @@ public final class RecordBench {
         }
         latestNumber = walks.firstNumber(from, over, to, true, 0);
         return walks.whyBy(latestNumber, from, over, to, true, 0);
-    }
-
-    private int sayTape(int r, int m, int number) {
-        Row row = recordOf(r);
-        Make by = makeOf(makes, m);
-        Field f = fieldOf(m, number);
-        if (row == null || by == null || f == null || f.kind != TEXT) {
-            return -1;
-        }
-        if (!reader.isSound(row, by)) {
-            return -2;
-        }
-        if (!tape.isText(0, tape.size())) {
-            return -3;
-        }
-        fresh.cut(0);
-        fresh.pushKey(f);
-        fresh.pushVarint(tape.size());
-        fresh.append(tape, 0, tape.size());
-        return settle(row, by, number, f.group);
     }
 
     /** Writes a sound row anew with the fresh PIECE (or none) at a NUMBER, if that has room. */

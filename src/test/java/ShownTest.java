@@ -21,7 +21,7 @@ public final class ShownTest {
 
     public static void main(String[] args) {
         Check.sentence("(So that b or c had a FAULT, or c would tell another thing than a.)");
-        Random random = new Random(11);
+        Random random = new Random(args.length > 0 ? Long.parseLong(args[0]) : 11);
         int broken = 0;
         int whole = 0;
         for (int trial = 0; trial < 150; trial++) {
@@ -48,11 +48,13 @@ public final class ShownTest {
         walker = Check.bench(texts);
     }
 
+    /** With one FIELD at least: a rec that never has a byte is read as the empty text, though its sort is another. */
     private static String someText(int m, Random random) {
         StringBuilder text = new StringBuilder();
         for (int number = 1; number <= 3; number++) {
             int kind = 1 + random.nextInt(m == 0 ? 5 : 8);
-            if (random.nextInt(4) == 0) {
+            boolean mayLack = number < 3 || text.indexOf(" n") >= 0;
+            if (random.nextInt(4) == 0 && mayLack) {
                 text.append(random.nextBoolean() ? number + " gone;" : "");
                 continue;
             }
